@@ -1,4 +1,4 @@
-/** Counts and prints the answers that are not the ones due. */
+/** Counts the answers that are not the ones due, and prints them. */
 final class Check {
     static final int MAX = Integer.MAX_VALUE;
     static final int MIN = Integer.MIN_VALUE;

@@ -1,9 +1,12 @@
 import java.util.ArrayList;
 import java.util.List;
 
-/** All that can be seen of a fabric, part by part, through the calls that change nothing. */
-record State(List<Integer> draft, List<List<Integer>> slots, int active,
-             List<Integer> latch, List<List<Integer>> waves, List<Integer> counts) {
+/**
+ * All that can be seen of a fabric through the calls that change nothing, part by part.
+ * Each part ends with the figure that info tells of it.
+ */
+record State(List<Integer> sizes, List<Integer> draft, List<List<Integer>> slots, int active,
+             List<Integer> latch, List<List<Integer>> waves) {
 
     static State of(BenesFabric x) {
         int n = x.info(BenesFabric.PORTS);
@@ -15,52 +18,54 @@ record State(List<Integer> draft, List<List<Integer>> slots, int active,
             draft.add(x.drafted(i));
             latch.add(x.latched(i));
         }
+        draft.add(x.info(BenesFabric.DRAFT_COUNT));
+        latch.add(x.info(BenesFabric.LATCH_COUNT));
         List<List<Integer>> slots = new ArrayList<>();
         for (int slot = 0; slot < k; slot++) {
-            List<Integer> both = new ArrayList<>();
-            for (int i = 0; i < n; i++) {
-                both.add(x.route(slot, i));
-                both.add(x.source(slot, i));
-            }
-            slots.add(both);
+            slots.add(setting(x, slot, n));
         }
         List<List<Integer>> waves = new ArrayList<>();
         for (int wave = 0; wave < s; wave++) {
-            List<Integer> cells = new ArrayList<>();
-            for (int o = 0; o < n; o++) {
-                cells.add(x.output(o, wave));
-            }
-            waves.add(cells);
+            waves.add(cells(x, wave, n));
         }
-        List<Integer> counts = new ArrayList<>();
-        for (int what = -1; what <= 7; what++) {
-            if (what != BenesFabric.ACTIVE) {
-                counts.add(x.info(what));
-            }
-        }
-        return new State(draft, slots, x.info(BenesFabric.ACTIVE), latch, waves, counts);
+        waves.add(List.of(x.info(BenesFabric.FLIGHT_COUNT)));
+        return new State(List.of(n, s, k), draft, slots, x.info(BenesFabric.ACTIVE), latch, waves);
     }
 
-    /** True if no part but the draft and its count differs. */
+    private static List<Integer> setting(BenesFabric x, int slot, int n) {
+        List<Integer> both = new ArrayList<>();
+        for (int port = 0; port < n; port++) {
+            both.add(x.route(slot, port));
+            both.add(x.source(slot, port));
+        }
+        return both;
+    }
+
+    private static List<Integer> cells(BenesFabric x, int wave, int n) {
+        List<Integer> cells = new ArrayList<>();
+        for (int output = 0; output < n; output++) {
+            cells.add(x.output(output, wave));
+        }
+        return cells;
+    }
+
     boolean sameButDraft(State o) {
-        return slots.equals(o.slots) && active == o.active && latch.equals(o.latch) && waves.equals(o.waves);
+        return equals(new State(o.sizes, draft, o.slots, o.active, o.latch, o.waves));
     }
 
     boolean sameButSlots(State o) {
-        return draft.equals(o.draft) && active == o.active && latch.equals(o.latch)
-            && waves.equals(o.waves) && counts.equals(o.counts);
+        return equals(new State(o.sizes, o.draft, slots, o.active, o.latch, o.waves));
     }
 
     boolean sameButActive(State o) {
-        return draft.equals(o.draft) && slots.equals(o.slots) && latch.equals(o.latch)
-            && waves.equals(o.waves) && counts.equals(o.counts);
+        return equals(new State(o.sizes, o.draft, o.slots, active, o.latch, o.waves));
     }
 
     boolean sameButLatch(State o) {
-        return draft.equals(o.draft) && slots.equals(o.slots) && active == o.active && waves.equals(o.waves);
+        return equals(new State(o.sizes, o.draft, o.slots, o.active, latch, o.waves));
     }
 
     boolean sameButLatchAndWaves(State o) {
-        return draft.equals(o.draft) && slots.equals(o.slots) && active == o.active;
+        return equals(new State(o.sizes, o.draft, o.slots, o.active, latch, waves));
     }
 }
